@@ -1206,14 +1206,18 @@ public final class SymmetryHouse {
         final int[] rows = new int[MATRIX_LIMIT * 9];
         final int[] firsts = new int[MATRIX_LIMIT];
         final int[] pures = new int[OPERATOR_LIMIT];
+        /** How far a product is from the kept operator of its matrix: by Schreier's lemma, these generate all pure ones. */
+        private final int[] gaps = new int[MATRIX_LIMIT * GENERATOR_LIMIT];
         private final int[] half = new int[9];
         private final int[] work = new int[9];
+        private int gapCount;
         int matrices;
         int pure;
 
         private void clear() {
             matrices = 0;
             pure = 0;
+            gapCount = 0;
         }
 
         private boolean addMatrix(int[] from, int at, int code) {
@@ -1260,17 +1264,18 @@ public final class SymmetryHouse {
             if (!spreadMatrices(g)) {
                 return INFINITE;
             }
-            return gatherPures(g) ? matrices * pure : FULL;
+            return gatherPures() ? matrices * pure : FULL;
         }
 
         private boolean spreadMatrices(Generators g) {
             for (int i = 0; i < matrices && i < MATRIX_LIMIT; i++) {
                 for (int j = 0; j < g.count; j++) {
                     Algebra.multiply(rows, i * 9, g.rows, j * 9, work);
-                    if (!Algebra.isModest(work)) {
-                        return false;
-                    }
-                    if (numberOf(work) == NONE && !addMatrix(work, 0, productCode(g, i, j))) {
+                    int code = Algebra.sum(Algebra.moved(rows, i * 9, g.codes[j]), firsts[i]);
+                    int known = numberOf(work);
+                    if (known != NONE) {
+                        addGap(Algebra.difference(code, firsts[known]));
+                    } else if (!Algebra.isModest(work) || !addMatrix(work, 0, code)) {
                         return false;
                     }
                 }
@@ -1278,19 +1283,17 @@ public final class SymmetryHouse {
             return true;
         }
 
-        private int productCode(Generators g, int i, int j) {
-            return Algebra.sum(Algebra.moved(rows, i * 9, g.codes[j]), firsts[i]);
+        private void addGap(int code) {
+            if (gapCount < gaps.length) {
+                gaps[gapCount] = code;
+                gapCount++;
+            }
         }
 
-        /** By Schreier's lemma, what the products miss of the kept translations generates all pure ones. */
-        private boolean gatherPures(Generators g) {
-            for (int i = 0; i < matrices; i++) {
-                for (int j = 0; j < g.count; j++) {
-                    Algebra.multiply(rows, i * 9, g.rows, j * 9, work);
-                    int k = numberOf(work);
-                    if (k != NONE && !extendPures(Algebra.difference(productCode(g, i, j), firsts[k]))) {
-                        return false;
-                    }
+        private boolean gatherPures() {
+            for (int i = 0; i < gapCount; i++) {
+                if (!extendPures(gaps[i])) {
+                    return false;
                 }
             }
             return true;
@@ -1410,6 +1413,7 @@ public final class SymmetryHouse {
         int matrices;
         int pure;
         int unit;
+        private boolean tabled;
 
         void settle(Draft d) {
             matrices = d.matrices;
@@ -1421,7 +1425,7 @@ public final class SymmetryHouse {
                 settleCodes(d, d.firsts[a], rank * pure);
             }
             unit = matrixNumber(IDENTITY, 0);
-            fillTable();
+            tabled = false;
         }
 
         private void settleCodes(Draft d, int first, int start) {
@@ -1443,6 +1447,7 @@ public final class SymmetryHouse {
                     table[a * MATRIX_LIMIT + b] = matrixNumber(work, 0);
                 }
             }
+            tabled = true;
         }
 
         int order() {
@@ -1503,7 +1508,11 @@ public final class SymmetryHouse {
             return codeNumber(matrixNumber(from.rows, from.matrixOf(i) * 9), from.codes[i]);
         }
 
+        /** The table is made when it is first asked for: most groups are never multiplied. */
         int matrixAfter(int a, int b) {
+            if (!tabled) {
+                fillTable();
+            }
             return table[a * MATRIX_LIMIT + b];
         }
 
