@@ -636,7 +636,7 @@ public final class SymmetryHouse {
             return m[at] + m[at + 4] + m[at + 8];
         }
 
-        /** The determinant with row r and column c, their signs by going round, left out. */
+        /** Rows and columns are taken going round from r and c, so that the sign comes right by itself. */
         static int cofactor(int[] m, int at, int r, int c) {
             int below = at + (r + 1) % 3 * 3;
             int last = at + (r + 2) % 3 * 3;
@@ -1206,7 +1206,7 @@ public final class SymmetryHouse {
         final int[] rows = new int[MATRIX_LIMIT * 9];
         final int[] firsts = new int[MATRIX_LIMIT];
         final int[] pures = new int[OPERATOR_LIMIT];
-        /** How far a product is from the kept operator of its matrix: by Schreier's lemma, these generate all pure ones. */
+        /** How far products are from the kept operator of their matrix: by Schreier's lemma, enough for all pures. */
         private final int[] gaps = new int[MATRIX_LIMIT * GENERATOR_LIMIT];
         private final int[] half = new int[9];
         private final int[] work = new int[9];

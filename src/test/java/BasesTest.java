@@ -44,6 +44,9 @@ public final class BasesTest {
     private static void turns() {
         SymmetryHouse x = new SymmetryHouse();
         turned(x, "-x,y+1/2,-z", false, "-x,y+1/2,-z");
+        turned(x, "z,x,y;-x,-y,z+1/2", false, "z,x,y;-x,-y,z+1/2");
+        turned(x, "x-y,x,1/6-z", true, "x-y,x,1/6-z");
+        turned(x, "x+1/3,z-y,z", true, "x+1/3,z-y,z");
         put(x, 0, 0, 1, 1, 0, 0, 0, 1, 0);
         turned(x, "-x,y+1/2,-z", false, "-x,-y,z+1/2");
         turned(x, "-x,y+1/2,-z", true, "x+1/2,-y,-z");
@@ -112,6 +115,10 @@ public final class BasesTest {
         Check.due("nothing was done", x.group(1, 0), 4);
         Check.symbol(x, 0, "P -2x");
         Check.due("-1000", x.turn(0, 1, false), -3);
+        put(x, 7, 1, -8, -6, 7, 2, -5, -6, 9);
+        Check.due("the first number alone", x.turn(0, 1, false), -3);
+        put(x, 6, 5, 5, 7, -7, 5, -9, 0, -7);
+        Check.due("the last number alone", x.turn(0, 1, false), -3);
         put(x, -3, -8, -4, 4, -9, 8, -5, 4, -9);
         Check.due("-999", x.turn(0, 1, false), 2);
         Check.due("as told", x.operator(1, 0, 8) + x.operator(1, 1, 8), -998);

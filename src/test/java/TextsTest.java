@@ -51,6 +51,12 @@ public final class TextsTest {
         Check.feed(x, "P 2 2");
         Check.due("the first bytes alone", x.read(5, 3, true), 2);
         Check.due("of 20", x.read(5, 1, true), -1);
+        Check.feed(x, "x,y,z+1/24");
+        Check.due("no digit behind them", x.read(5, 9, false), 2);
+        Check.feed(x, "P 41");
+        Check.due("nor in a symbol", x.read(5, 3, true), 4);
+        Check.due("it has no screw", x.group(5, 11), 4);
+        Check.due("digits to the tape's end", Check.triples(x, 5, " ".repeat(391) + "x,y,z+1/2"), 2);
         Check.due("triples", Check.triples(x, 0, "-x,y+1/2,-z+1/2;-x,-y,-z"), 4);
         Check.due("as the symbol", Check.symbol(x, 1, "-P 2ybc"), 4);
         Check.due("are the same", x.compare(0, 1), 3);
@@ -129,6 +135,7 @@ public final class TextsTest {
         good(false, times("x,y,z", 12), 1, 12, 1);
         good(false, "  x , y , z + 1 / 2  ", 2, 1, 1);
         good(false, "x+1/02,y,z", 2, 1, 1);
+        good(false, "x+1/1,y+1,z-0", 1, 1, 1);
         good(false, "-1/3+x,y+99,z", 3, 1, 1);
         good(false, "x+1/24,y,z", 24, 1, 1);
         good(false, "-x-1/2,1/8-y,z", 2, 1, 2);
@@ -165,6 +172,9 @@ public final class TextsTest {
         fault(true, "P 2 (0 12 0)", 1, 8);
         fault(true, "P 2 (0 011 0)", 1, 9);
         fault(true, "P 2 (0 - 0)", 1, 8);
+        fault(true, "P 2 (: 0 0)", 1, 5);
+        fault(true, "P 2 (0: 0 0)", 1, 6);
+        fault(true, "P 2 (/ 0 0)", 1, 5);
         fault(true, "P 2 (0 0 0))", 1, 11);
         fault(true, "P 2 (0 0 0) 2", 1, 12);
         fault(true, "P 2 (0 0 0) (0 0 0)", 1, 12);
@@ -272,6 +282,7 @@ public final class TextsTest {
         Check.due("the slot stays", x.group(0, 0), 192);
         Check.due("192 translations", Check.triples(x, 0, "x+1/24,y,z;x,y+1/8,z"), 192);
         Check.due("193 and more are", Check.triples(x, 0, "x+1/24,y,z;x,y+1/8,z;-x,-y,-z"), -4);
+        Check.due("a translation far on", Check.triples(x, 0, times("x,y,z", 11) + ";x-y,x,z+1/8"), 24);
         Check.due("rotations may make translations", Check.symbol(x, 0, "P 1u 1v 1w"), 64);
         Check.due("and too many of them", Check.symbol(x, 0, "-F 4u 2 3"), -4);
     }
