@@ -315,6 +315,7 @@ public final class SymmetryHouse {
         if (sets < 0 || a == null || b == null) {
             return sets;
         }
+        a.markCosets(b, marks);
         return a.hasNormal(b, marks) ? 1 : 0;
     }
 
@@ -1625,9 +1626,8 @@ public final class SymmetryHouse {
             }
         }
 
-        /** One operator of each set o H is enough: with it, all of its set do alike. */
+        /** One operator of each set o H, as they are marked, is enough: with it, all of its set do alike. */
         boolean hasNormal(Group h, int[] marks) {
-            markCosets(h, marks);
             int sets = 0;
             for (int i = 0; i < order(); i++) {
                 if (marks[i] == sets) {

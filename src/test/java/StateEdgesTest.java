@@ -1,0 +1,247 @@
+import java.util.EnumSet;
+import java.util.NoSuchElementException;
+
+/** What each call changes, what a refused one leaves as it was, and the slots that are not there. */
+public final class StateEdgesTest {
+    private static final int[] NO_SLOTS = {-1, 6, 7, Integer.MIN_VALUE, Integer.MAX_VALUE};
+
+    public static void main(String[] args) {
+        askingCallsChangeNothing();
+        textChangesOutAlone();
+        feedChangesTheTapeAlone();
+        readChangesItsSlot();
+        groupMakersChangeTheirSlotAlone();
+        basisChangesTheBasisAlone();
+        metricAndOrbitChangeTheirOwn();
+        refusedTexts();
+        refusedGroups();
+        refusedBasesAndTurns();
+        refusedMetricsAndOrbits();
+        slotsThatAreNotThere();
+        lackingSlots();
+        lastOfItsCalls();
+        Check.end();
+    }
+
+    private static void askingCallsChangeNothing() {
+        Still.none("fault", x -> x.fault(0));
+        Still.none("out", x -> x.out(0));
+        Still.none("out beyond", x -> Check.due("out throws", throwsAt(x, 15), true));
+        Still.none("group", x -> {
+            for (int what = -1; what < 13; what++) {
+                x.group(0, what);
+            }
+        });
+        Still.none("operator", x -> Check.operator(x, 1, 1, -1, 24));
+        Still.none("product", x -> x.product(2, 1, 3));
+        Still.none("find", x -> x.find(0, 1, 3));
+        Still.none("compare", x -> x.compare(0, 1));
+        Still.none("cosets", x -> x.cosets(2, 2));
+        Still.none("coset", x -> x.coset(2, 2, 1));
+        Still.none("normal", x -> x.normal(2, 2));
+        Still.none("mean", x -> x.mean(3));
+        Still.none("place", x -> x.place(0, 0));
+        Still.none("site", x -> x.site(3));
+        Still.none("stays", x -> x.stays(0));
+        Still.none("reflection", x -> x.reflection(0, 0, 1, 0, 0));
+        Still.none("absent", x -> x.absent(0, 3));
+    }
+
+    private static void textChangesOutAlone() {
+        Still.change("text", EnumSet.of(Still.Part.OUT), x -> x.text(2, 0));
+    }
+
+    private static void feedChangesTheTapeAlone() {
+        Still.change("feed", EnumSet.of(Still.Part.TAPE), x -> Check.feed(x, " ".repeat(20)));
+    }
+
+    private static void readChangesItsSlot() {
+        Still.change("read", EnumSet.of(Still.Part.FAULT, Still.Part.SLOT5, Still.Part.TAPE),
+            x -> Check.due("read", x.read(5, 9, true), 8));
+        Still.change("read of the orbit's slot", EnumSet.of(Still.Part.FAULT, Still.Part.SLOT0, Still.Part.TAPE),
+            x -> Check.due("read", x.read(0, 9, true), 8));
+    }
+
+    private static void groupMakersChangeTheirSlotAlone() {
+        EnumSet<Still.Part> fifth = EnumSet.of(Still.Part.SLOT5);
+        Still.change("common", fifth, x -> Check.due("common", x.common(0, 1, 5), 1));
+        Still.change("part", fifth, x -> Check.due("part", x.part(2, 2, 3, 5), 3));
+        Still.change("turn", fifth, x -> Check.due("turn", x.turn(2, 5, false), 6));
+        Still.change("turn back", fifth, x -> Check.due("turn", x.turn(2, 5, true), 6));
+        Still.change("turn of the orbit's slot", EnumSet.of(Still.Part.SLOT0), x -> x.turn(0, 0, false));
+        Still.change("part to the metric's slot", EnumSet.of(Still.Part.SLOT2), x -> x.part(2, 1, 1, 2));
+    }
+
+    private static void basisChangesTheBasisAlone() {
+        for (int k = 0; k < 12; k++) {
+            int number = k;
+            Still.change("basis(" + k + ", 2)", EnumSet.of(Still.Part.BASIS), x -> x.basis(number, 2));
+        }
+    }
+
+    private static void metricAndOrbitChangeTheirOwn() {
+        Still.change("metric", EnumSet.of(Still.Part.METRIC), x -> x.metric(0, 1, 2, 3, 4, 5, 6));
+        Still.change("orbit", EnumSet.of(Still.Part.POINTS), x -> x.orbit(1, 0, 0, 0, 7));
+    }
+
+    /** "NONE, and none comes"; "NONE, doing nothing"; "Else the slot stays"; "NONE (OUT stays)". */
+    private static void refusedTexts() {
+        Still.change("feed beyond 400", EnumSet.noneOf(Still.Part.class), x -> Check.feed(x, " ".repeat(360)), x -> {
+            Check.due("feed", x.feed(0x24242424, 1, 2, 3, 4), -1);
+            Check.due("read", x.read(0, 401, false), -1);
+        });
+        Still.none("read below 0", x -> Check.due("read", x.read(0, -1, true), -1));
+        Still.none("read of the least", x -> Check.due("read", x.read(0, Integer.MIN_VALUE, true), -1));
+        Still.none("read of one more", x -> Check.due("read", x.read(0, 41, true), -1));
+        Still.none("read of the most", x -> Check.due("read", x.read(0, Integer.MAX_VALUE, false), -1));
+        Still.none("read to no slot", x -> {
+            for (int slot : NO_SLOTS) {
+                Check.due("read", x.read(slot, 9, true), -1);
+            }
+        });
+        EnumSet<Still.Part> told = EnumSet.of(Still.Part.FAULT, Still.Part.TAPE);
+        Still.change("a read with a FAULT", told, x -> Check.due("read", x.read(0, 40, false), -2));
+        Still.change("an INFINITE one", told, x -> Check.due("read", again(x, "x,x+y,z"), -3));
+        Still.change("a FULL one", told, x -> Check.due("read", again(x, "x+1/24,y,z;x,y+1/24,z"), -4));
+        Still.none("text of none such", x -> {
+            for (int i : new int[] {-1, 4, Integer.MIN_VALUE, Integer.MAX_VALUE}) {
+                Check.due("text", x.text(0, i), -1);
+            }
+            Check.due("text", x.text(5, 0), -1);
+        });
+    }
+
+    private static int again(SymmetryHouse x, String triples) {
+        x.read(0, 0, true);
+        return Check.triples(x, 0, triples);
+    }
+
+    /** common() and part(): NONE, or "0, and the slot stays". */
+    private static void refusedGroups() {
+        Still.none("common", x -> {
+            Check.due("the first lacks", x.common(5, 0, 1), -1);
+            Check.due("the second lacks", x.common(0, 5, 1), -1);
+            Check.due("no slot", x.common(0, 1, 6), -1);
+        });
+        Still.none("part", x -> {
+            Check.due("it lacks", x.part(5, 0, 1, 0), -1);
+            Check.due("no slot", x.part(2, 0, 1, 6), -1);
+            Check.due("no TYPE", x.part(2, 2, 5, 0), -1);
+            Check.due("no group", x.part(2, 2, 2, 0), 0);
+            Check.due("no group, to its own slot", x.part(2, 2, 2, 2), 0);
+            Check.due("no group, to a slot without one", x.part(2, 2, 2, 5), 0);
+        });
+    }
+
+    /** "false, and nothing is changed"; "-2, and nothing is done". */
+    private static void refusedBasesAndTurns() {
+        Still.none("basis", x -> {
+            for (int k = 0; k < 12; k++) {
+                Check.due("basis(" + k + ", 24)", x.basis(k, 24), false);
+                Check.due("basis(" + k + ", -10)", x.basis(k, -10), false);
+            }
+            Check.due("basis(-1, 2)", x.basis(-1, 2), false);
+            Check.due("basis(12, 2)", x.basis(12, 2), false);
+        });
+        Still.none("turn", x -> {
+            Check.due("it lacks", x.turn(5, 0, false), -1);
+            Check.due("no slot", x.turn(2, 6, true), -1);
+        });
+        Still.change("turn by a determinant of 2", EnumSet.noneOf(Still.Part.class), x -> x.basis(0, 2), x -> {
+            Check.due("turn", x.turn(2, 0, false), -2);
+            Check.due("turn back", x.turn(2, 0, true), -2);
+            Check.due("turn to a slot without one", x.turn(2, 5, true), -2);
+        });
+        Still.change("turn beyond 999", EnumSet.noneOf(Still.Part.class), StateEdgesTest::steepBasis, x -> {
+            Check.due("turn", x.turn(2, 0, false), -3);
+            Check.due("turn to its own slot", x.turn(2, 2, false), -3);
+            Check.due("turn to a slot without one", x.turn(2, 5, false), -3);
+        });
+    }
+
+    private static void steepBasis(SymmetryHouse x) {
+        int[] p = {4, 7, -9, 5, 8, 4, -2, -3, -6};
+        for (int k = 0; k < 9; k++) {
+            x.basis(k, p[k]);
+        }
+    }
+
+    /** "The latest metric() that was not NONE"; "NONE, and the latest one stays". */
+    private static void refusedMetricsAndOrbits() {
+        Still.none("metric", x -> {
+            Check.due("it lacks", x.metric(5, 1, 2, 3, 4, 5, 6), -1);
+            Check.due("the first number", x.metric(0, 1001, 2, 3, 4, 5, 6), -1);
+            Check.due("the last number", x.metric(0, 1, 2, 3, 4, 5, -1001), -1);
+        });
+        Still.none("orbit", x -> {
+            Check.due("it lacks", x.orbit(5, 1, 1, 1, 7), -1);
+            Check.due("a", x.orbit(1, 10001, 1, 1, 7), -1);
+            Check.due("c", x.orbit(1, 1, 1, -10001, 7), -1);
+            Check.due("d", x.orbit(1, 1, 1, 1, 1001), -1);
+            Check.due("d", x.orbit(1, 1, 1, 1, 0), -1);
+        });
+    }
+
+    /** "GROUPS are in SLOTS 0 .. 5". */
+    private static void slotsThatAreNotThere() {
+        for (int slot : NO_SLOTS) {
+            Still.none("calls to slot " + slot, x -> askAll(x, slot));
+        }
+    }
+
+    /** "A slot lacks one at first". */
+    private static void lackingSlots() {
+        Still.none("calls to a slot without a group", x -> askAll(x, 5));
+    }
+
+    private static void askAll(SymmetryHouse x, int slot) {
+        String at = " of slot " + slot;
+        Check.due("text" + at, x.text(slot, 0), -1);
+        Check.due("group" + at, x.group(slot, 0), -1);
+        Check.due("operator" + at, x.operator(slot, 0, 0), -100000);
+        Check.due("product" + at, x.product(slot, 0, 0), -1);
+        Check.due("find" + at, x.find(slot, 0, 3), -1);
+        Check.due("find in another" + at, x.find(0, slot, 0), -1);
+        Check.due("compare" + at, x.compare(slot, 0), -1);
+        Check.due("compare with one" + at, x.compare(0, slot), -1);
+        Check.due("common" + at, x.common(slot, 0, 1), -1);
+        Check.due("common with one" + at, x.common(0, slot, 1), -1);
+        Check.due("cosets" + at, x.cosets(slot, 0), -1);
+        Check.due("cosets by one" + at, x.cosets(0, slot), -1);
+        Check.due("coset" + at, x.coset(slot, 0, 0), -1);
+        Check.due("coset by one" + at, x.coset(0, slot, 0), -1);
+        Check.due("normal" + at, x.normal(slot, 0), -1);
+        Check.due("normal by one" + at, x.normal(0, slot), -1);
+        Check.due("part" + at, x.part(slot, 0, 1, 0), -1);
+        Check.due("turn" + at, x.turn(slot, 0, false), -1);
+        Check.due("metric" + at, x.metric(slot, 1, 1, 1, 0, 0, 0), -1);
+        Check.due("orbit" + at, x.orbit(slot, 0, 0, 0, 1), -1);
+        Check.due("reflection" + at, x.reflection(slot, 0, 0, 0, 0), -1);
+        Check.due("absent" + at, x.absent(slot, 0), -1);
+        if (slot != 5) {
+            Check.due("common to it" + at, x.common(0, 0, slot), -1);
+            Check.due("part to it" + at, x.part(0, 0, 1, slot), -1);
+            Check.due("turn to it" + at, x.turn(0, slot, false), -1);
+        }
+    }
+
+    /** "An object is used for at most 512 calls after it has been made". */
+    private static void lastOfItsCalls() {
+        SymmetryHouse x = new SymmetryHouse();
+        for (int i = 0; i < 255; i++) {
+            x.feed(0x2d502032, 0x20322020, 0x20202020, 0x20202020, 0x20202020);
+            x.read(i % 6, 6, true);
+        }
+        Check.due("call 511", x.orbit(2, 1, 2, 3, 10), 8);
+        Check.due("call 512", x.place(7, 2), 168);
+    }
+
+    private static boolean throwsAt(SymmetryHouse x, int i) {
+        try {
+            x.out(i);
+        } catch (NoSuchElementException e) {
+            return true;
+        }
+        return false;
+    }
+}
