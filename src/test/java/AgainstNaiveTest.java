@@ -1,7 +1,10 @@
 import java.util.NoSuchElementException;
 import java.util.Random;
 
-/** Long runs of calls, the same every time, on the class and on the naive model beside it. */
+/**
+ * Long runs of calls, the same every time, on the class and on the naive model beside it. The class counts no calls,
+ * so an object may have more than 512 of them here.
+ */
 public final class AgainstNaiveTest {
     private static final String[] SYMBOLS = {
         "P 1", "-P 1", "P 2y", "P 2yb", "C 2y", "P -2y", "P -2yc", "C -2yc", "-P 2yb", "-C 2yc", "-P 2ybc", "A 2x",

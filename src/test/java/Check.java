@@ -1,5 +1,7 @@
 /** What the tests share: the count of wrong answers, and texts on the tape. */
 final class Check {
+    /** More lines than these tell nothing new. */
+    private static final int TOLD = 60;
     private static int wrong = 0;
 
     private Check() {
@@ -7,8 +9,7 @@ final class Check {
 
     static void due(String call, long got, long want) {
         if (got != want) {
-            wrong++;
-            System.out.println(call + " answered " + got + ", due is " + want);
+            tell(call + " answered " + got + ", due is " + want);
         }
     }
 
@@ -18,8 +19,14 @@ final class Check {
 
     static void due(String call, String got, String want) {
         if (!got.equals(want)) {
-            wrong++;
-            System.out.println(call + " answered " + got + ", due is " + want);
+            tell(call + " answered " + got + ", due is " + want);
+        }
+    }
+
+    private static void tell(String line) {
+        wrong++;
+        if (wrong <= TOLD) {
+            System.out.println(line);
         }
     }
 

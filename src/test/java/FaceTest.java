@@ -45,11 +45,11 @@ public final class FaceTest {
         Check.due("without parameters", constructors[0].getParameterCount(), 0);
         Check.due("public", Modifier.isPublic(constructors[0].getModifiers()), true);
         Check.due("few classes inside", face.getDeclaredClasses().length < 12, true);
-        inside(face);
+        inside(face, names);
         Check.end();
     }
 
-    private static void inside(Class<?> face) {
+    private static void inside(Class<?> face, Set<String> names) {
         for (Class<?> c : face.getDeclaredClasses()) {
             Check.due(c + " is static", Modifier.isStatic(c.getModifiers()) && !Modifier.isPublic(c.getModifiers()), true);
         }
@@ -60,6 +60,7 @@ public final class FaceTest {
             }
             for (Method m : c.getDeclaredMethods()) {
                 Check.due(m + " has few parameters", m.getParameterCount() <= 7, true);
+                Check.due(m + " has a name of its own", names.contains(m.getName()), false);
             }
         }
     }

@@ -1,6 +1,7 @@
 /** Promises 21 to 24. */
 public final class PointsTest {
-    private static final SymmetryHouse X = new SymmetryHouse();
+    /** New again where it would come near its 512 calls. */
+    private static SymmetryHouse house = new SymmetryHouse();
 
     public static void main(String[] args) {
         positions();
@@ -13,14 +14,15 @@ public final class PointsTest {
     /** As the International Tables have them: how many, the site's class, its freedom. */
     private static void position(String symbol, int[] point, int places, int site, int free) {
         String call = symbol + " at " + point[0] + " " + point[1] + " " + point[2] + " by " + point[3];
-        int order = Check.symbol(X, 0, symbol);
-        Check.due(call, X.orbit(0, point[0], point[1], point[2], point[3]), places);
-        Check.due(call + " stabiliser", X.site(0), order / places);
-        Check.due(call + " class", X.site(1), site);
-        Check.due(call + " free", X.site(2), free);
-        Check.due(call + " parts", X.site(4), 24 * point[3]);
+        house = new SymmetryHouse();
+        int order = Check.symbol(house, 0, symbol);
+        Check.due(call, house.orbit(0, point[0], point[1], point[2], point[3]), places);
+        Check.due(call + " stabiliser", house.site(0), order / places);
+        Check.due(call + " class", house.site(1), site);
+        Check.due(call + " free", house.site(2), free);
+        Check.due(call + " parts", house.site(4), 24 * point[3]);
         for (int k = 0; k < 3; k++) {
-            Check.due(call + " own", X.place(X.site(3), k), Math.floorMod(24 * point[k], 24 * point[3]));
+            Check.due(call + " own", house.place(house.site(3), k), Math.floorMod(24 * point[k], 24 * point[3]));
         }
     }
 
@@ -44,33 +46,33 @@ public final class PointsTest {
     }
 
     private static void places() {
-        Check.symbol(X, 0, "P 4");
-        Check.due("four places", X.orbit(0, 1, 2, 3, 10), 4);
+        Check.symbol(house, 0, "P 4");
+        Check.due("four places", house.orbit(0, 1, 2, 3, 10), 4);
         int[][] want = {{24, 48, 72}, {48, 216, 72}, {192, 24, 72}, {216, 192, 72}};
         for (int i = 0; i < 4; i++) {
             for (int k = 0; k < 3; k++) {
-                Check.due("place(" + i + ", " + k + ")", X.place(i, k), want[i][k]);
+                Check.due("place(" + i + ", " + k + ")", house.place(i, k), want[i][k]);
             }
         }
-        Check.due("its own", X.site(3), 0);
-        Check.due("one stays", X.site(0), 1);
-        Check.due("the identity", X.stays(0), 3);
-        X.orbit(0, -1, -2, 3, 10);
-        Check.due("another's own", X.site(3), 3);
-        X.orbit(0, 1, 1, 0, 2);
+        Check.due("its own", house.site(3), 0);
+        Check.due("one stays", house.site(0), 1);
+        Check.due("the identity", house.stays(0), 3);
+        house.orbit(0, -1, -2, 3, 10);
+        Check.due("another's own", house.site(3), 3);
+        house.orbit(0, 1, 1, 0, 2);
         for (int i = 0; i < 4; i++) {
-            Check.due("stays(" + i + ")", X.stays(i), i);
+            Check.due("stays(" + i + ")", house.stays(i), i);
         }
-        Check.due("stays(4)", X.stays(4), -1);
-        X.orbit(0, 0, 1, 5, 2);
-        Check.due("two places", X.place(1, 0), 24);
-        Check.due("the 2", X.stays(0), 0);
-        Check.due("and the identity", X.stays(1), 3);
-        Check.due("no more", X.stays(2), -1);
-        Check.symbol(X, 1, "P 31");
-        X.orbit(1, 0, 0, 0, 1000);
-        Check.due("by the third numbers", X.place(2, 2), 16000);
-        Check.due("by the third numbers", X.place(1, 2), 8000);
+        Check.due("stays(4)", house.stays(4), -1);
+        house.orbit(0, 0, 1, 5, 2);
+        Check.due("two places", house.place(1, 0), 24);
+        Check.due("the 2", house.stays(0), 0);
+        Check.due("and the identity", house.stays(1), 3);
+        Check.due("no more", house.stays(2), -1);
+        Check.symbol(house, 1, "P 31");
+        house.orbit(1, 0, 0, 0, 1000);
+        Check.due("by the third numbers", house.place(2, 2), 16000);
+        Check.due("by the third numbers", house.place(1, 2), 8000);
     }
 
     private static void latest() {
@@ -91,27 +93,27 @@ public final class PointsTest {
     }
 
     private static void wrong() {
-        Check.symbol(X, 0, "P 2");
+        Check.symbol(house, 0, "P 2");
         int big = Integer.MAX_VALUE;
         int least = Integer.MIN_VALUE;
         int[][] wrong = {{0, 10001, 0, 0, 1}, {0, 0, -10001, 0, 1}, {0, 0, 0, 10001, 1}, {0, -10001, 0, 0, 1},
             {0, 0, 10001, 0, 1}, {0, 0, 0, -10001, 1}, {0, 0, 0, 0, 0}, {0, 0, 0, 0, 1001}, {0, 0, 0, 0, -1},
             {0, big, 0, 0, 1}, {0, 0, least, 0, 1}, {0, 0, 0, 0, least}, {-1, 0, 0, 0, 1}, {6, 0, 0, 0, 1}};
         for (int[] w : wrong) {
-            Check.due("orbit", X.orbit(w[0], w[1], w[2], w[3], w[4]), -1);
+            Check.due("orbit", house.orbit(w[0], w[1], w[2], w[3], w[4]), -1);
         }
-        Check.due("the edges are fine", X.orbit(0, 10000, -10000, 10000, 1000), 1);
+        Check.due("the edges are fine", house.orbit(0, 10000, -10000, 10000, 1000), 1);
         for (int i : new int[] {-1, 1, big, least}) {
-            Check.due("place(" + i + ", 0)", X.place(i, 0), -1);
+            Check.due("place(" + i + ", 0)", house.place(i, 0), -1);
         }
         for (int k : new int[] {-1, 3, big, least}) {
-            Check.due("place(0, " + k + ")", X.place(0, k), -1);
+            Check.due("place(0, " + k + ")", house.place(0, k), -1);
         }
         for (int what : new int[] {-1, 5, big, least}) {
-            Check.due("site(" + what + ")", X.site(what), -1);
+            Check.due("site(" + what + ")", house.site(what), -1);
         }
         for (int i : new int[] {-1, 2, big, least}) {
-            Check.due("stays(" + i + ")", X.stays(i), -1);
+            Check.due("stays(" + i + ")", house.stays(i), -1);
         }
     }
 }

@@ -1,6 +1,7 @@
 /** Promises 25 and 26. */
 public final class ReflectionsTest {
-    private static final SymmetryHouse X = new SymmetryHouse();
+    /** New again where it would come near its 512 calls. */
+    private static SymmetryHouse house = new SymmetryHouse();
 
     public static void main(String[] args) {
         absences();
@@ -11,8 +12,8 @@ public final class ReflectionsTest {
     }
 
     private static void absent(String symbol, int h, int k, int l, int want) {
-        Check.symbol(X, 0, symbol);
-        Check.due(symbol + " " + h + " " + k + " " + l, X.reflection(0, h, k, l, 0), want);
+        Check.symbol(house, 0, symbol);
+        Check.due(symbol + " " + h + " " + k + " " + l, house.reflection(0, h, k, l, 0), want);
     }
 
     private static void absences() {
@@ -41,10 +42,11 @@ public final class ReflectionsTest {
     }
 
     private static void numbers(String symbol, int h, int k, int l, String want) {
-        Check.symbol(X, 0, symbol);
+        house = new SymmetryHouse();
+        Check.symbol(house, 0, symbol);
         StringBuilder got = new StringBuilder();
         for (int what = 0; what < 6; what++) {
-            got.append(what > 0 ? " " : "").append(X.reflection(0, h, k, l, what));
+            got.append(what > 0 ? " " : "").append(house.reflection(0, h, k, l, what));
         }
         Check.due(symbol + " " + h + " " + k + " " + l, got.toString(), want);
     }
@@ -88,12 +90,12 @@ public final class ReflectionsTest {
     }
 
     private static void sphere(String symbol, int n, int want) {
-        Check.symbol(X, 0, symbol);
-        Check.due("absent of " + symbol + " to " + n, X.absent(0, n), want);
+        Check.symbol(house, 0, symbol);
+        Check.due("absent of " + symbol + " to " + n, house.absent(0, n), want);
     }
 
     private static void wrong() {
-        Check.symbol(X, 0, "I 1");
+        Check.symbol(house, 0, "I 1");
         int big = Integer.MAX_VALUE;
         int least = Integer.MIN_VALUE;
         int[][] wrong = {{0, 1001, 0, 0, 0}, {0, 0, 1001, 0, 0}, {0, 0, 0, 1001, 0}, {0, -1001, 0, 0, 0},
@@ -101,14 +103,14 @@ public final class ReflectionsTest {
             {-1, 0, 0, 0, 0}, {6, 0, 0, 0, 0}, {0, big, 0, 0, 0}, {0, 0, least, 0, 0}, {0, 0, 0, 0, big},
             {0, 0, 0, 0, least}};
         for (int[] w : wrong) {
-            Check.due("reflection", X.reflection(w[0], w[1], w[2], w[3], w[4]), -1);
+            Check.due("reflection", house.reflection(w[0], w[1], w[2], w[3], w[4]), -1);
         }
-        Check.due("the edges are fine", X.reflection(0, 1000, -1000, 1000, 0), 0);
+        Check.due("the edges are fine", house.reflection(0, 1000, -1000, 1000, 0), 0);
         for (int n : new int[] {-1, 7, big, least}) {
-            Check.due("absent(0, " + n + ")", X.absent(0, n), -1);
+            Check.due("absent(0, " + n + ")", house.absent(0, n), -1);
         }
         for (int slot : new int[] {-1, 5, 6, big, least}) {
-            Check.due("absent of no group", X.absent(slot, 1), -1);
+            Check.due("absent of no group", house.absent(slot, 1), -1);
         }
     }
 }

@@ -2,7 +2,8 @@ import java.util.NoSuchElementException;
 
 /** Promises 2 to 6. */
 public final class TextsTest {
-    private static final SymmetryHouse X = new SymmetryHouse();
+    /** New again where it would come near its 512 calls. */
+    private static SymmetryHouse house = new SymmetryHouse();
 
     public static void main(String[] args) {
         feeds();
@@ -63,23 +64,25 @@ public final class TextsTest {
     }
 
     private static void fault(boolean symbol, String text, int fault, int place) {
-        int answer = symbol ? Check.symbol(X, 0, text) : Check.triples(X, 0, text);
+        house = new SymmetryHouse();
+        int answer = symbol ? Check.symbol(house, 0, text) : Check.triples(house, 0, text);
         Check.due("read of <" + text + ">", answer, -2);
-        Check.due("fault(0) of <" + text + ">", X.fault(0), fault);
-        Check.due("fault(1) of <" + text + ">", X.fault(1), place);
-        Check.due("fault(2) of <" + text + ">", X.fault(2), 0);
-        Check.due("fault(3) of <" + text + ">", X.fault(3), 0);
-        Check.due("fault(4)", X.fault(4), -1);
-        Check.due("fault(-1)", X.fault(-1), -1);
+        Check.due("fault(0) of <" + text + ">", house.fault(0), fault);
+        Check.due("fault(1) of <" + text + ">", house.fault(1), place);
+        Check.due("fault(2) of <" + text + ">", house.fault(2), 0);
+        Check.due("fault(3) of <" + text + ">", house.fault(3), 0);
+        Check.due("fault(4)", house.fault(4), -1);
+        Check.due("fault(-1)", house.fault(-1), -1);
     }
 
     private static void good(boolean symbol, String text, int order, int generators, int matrices) {
-        int answer = symbol ? Check.symbol(X, 0, text) : Check.triples(X, 0, text);
+        house = new SymmetryHouse();
+        int answer = symbol ? Check.symbol(house, 0, text) : Check.triples(house, 0, text);
         Check.due("read of <" + text + ">", answer, order);
-        Check.due("fault(0) of <" + text + ">", X.fault(0), 0);
-        Check.due("fault(1) of <" + text + ">", X.fault(1), -1);
-        Check.due("fault(2) of <" + text + ">", X.fault(2), generators);
-        Check.due("fault(3) of <" + text + ">", X.fault(3), matrices);
+        Check.due("fault(0) of <" + text + ">", house.fault(0), 0);
+        Check.due("fault(1) of <" + text + ">", house.fault(1), -1);
+        Check.due("fault(2) of <" + text + ">", house.fault(2), generators);
+        Check.due("fault(3) of <" + text + ">", house.fault(3), matrices);
     }
 
     private static String times(String text, int n) {
@@ -93,7 +96,7 @@ public final class TextsTest {
     private static void tripleFaults() {
         fault(false, "", 1, 0);
         fault(false, "   ", 1, 3);
-        fault(false, "X,y,z", 1, 0);
+        fault(false, "house,y,z", 1, 0);
         fault(false, "x,y", 1, 3);
         fault(false, "x,y,  ", 1, 6);
         fault(false, "x,y,z;", 1, 6);
@@ -202,9 +205,10 @@ public final class TextsTest {
     }
 
     private static void same(String symbol, String triples) {
-        Check.symbol(X, 0, symbol);
-        Check.triples(X, 1, triples);
-        Check.due("<" + symbol + "> and <" + triples + ">", X.compare(0, 1), 3);
+        house = new SymmetryHouse();
+        Check.symbol(house, 0, symbol);
+        Check.triples(house, 1, triples);
+        Check.due("<" + symbol + "> and <" + triples + ">", house.compare(0, 1), 3);
     }
 
     private static void symbolGenerators() {
@@ -288,14 +292,14 @@ public final class TextsTest {
     }
 
     private static void text(int slot, int i, String want) {
-        int length = X.text(slot, i);
+        int length = house.text(slot, i);
         Check.due("text(" + slot + ", " + i + ")", length, want.length());
-        Check.due("text(" + slot + ", " + i + ")", Check.out(X, length), want);
+        Check.due("text(" + slot + ", " + i + ")", Check.out(house, length), want);
     }
 
     private static boolean throwsAt(int i) {
         try {
-            X.out(i);
+            house.out(i);
         } catch (NoSuchElementException e) {
             return true;
         }
@@ -303,39 +307,40 @@ public final class TextsTest {
     }
 
     private static void texts() {
-        Check.symbol(X, 0, "-P 2ybc");
+        house = new SymmetryHouse();
+        Check.symbol(house, 0, "-P 2ybc");
         text(0, 0, "-x,-y,-z");
         text(0, 1, "-x,y+1/2,-z+1/2");
         text(0, 2, "x,-y+1/2,z+1/2");
         text(0, 3, "x,y,z");
-        Check.due("no operator -1", X.text(0, -1), -1);
-        Check.due("no operator 4", X.text(0, 4), -1);
-        Check.due("no slot -1", X.text(-1, 0), -1);
-        Check.due("no slot 6", X.text(6, 0), -1);
-        Check.due("no group", X.text(5, 0), -1);
-        Check.due("OUT stays", Check.out(X, 5), "x,y,z");
+        Check.due("no operator -1", house.text(0, -1), -1);
+        Check.due("no operator 4", house.text(0, 4), -1);
+        Check.due("no slot -1", house.text(-1, 0), -1);
+        Check.due("no slot 6", house.text(6, 0), -1);
+        Check.due("no group", house.text(5, 0), -1);
+        Check.due("OUT stays", Check.out(house, 5), "x,y,z");
         Check.due("out(5) throws", throwsAt(5), true);
         Check.due("out(-1) throws", throwsAt(-1), true);
         Check.due("out(4) does not", throwsAt(4), false);
         Check.due("out(least) throws", throwsAt(Integer.MIN_VALUE), true);
         String[] parts = {"", "1/24", "1/12", "1/8", "1/6", "5/24", "1/4", "7/24", "1/3", "3/8", "5/12", "11/24",
             "1/2", "13/24", "7/12", "5/8", "2/3", "17/24", "3/4", "19/24", "5/6", "7/8", "11/12", "23/24"};
-        Check.triples(X, 0, "x,y,z+1/24");
+        Check.triples(house, 0, "x,y,z+1/24");
         for (int i = 0; i < 24; i++) {
             text(0, i, i == 0 ? "x,y,z" : "x,y,z+" + parts[i]);
         }
-        Check.triples(X, 0, "y-x,-x,1/3+z");
+        Check.triples(house, 0, "y-x,-x,1/3+z");
         text(0, 0, "-x+y,-x,z+1/3");
         text(0, 1, "-y,x-y,z+2/3");
-        Check.triples(X, 0, "-x+1/2,y,-z");
-        X.basis(0, 1);
-        X.basis(1, 9);
-        X.basis(2, 9);
-        X.basis(5, 9);
-        X.turn(0, 0, false);
+        Check.triples(house, 0, "-x+1/2,y,-z");
+        house.basis(0, 1);
+        house.basis(1, 9);
+        house.basis(2, 9);
+        house.basis(5, 9);
+        house.turn(0, 0, false);
         text(0, 0, "-x+18y-162z+1/2,y-18z,-z");
         text(0, 1, "x,y,z");
-        X.turn(0, 0, false);
+        house.turn(0, 0, false);
         text(0, 0, "-x+36y-648z+1/2,y-36z,-z");
     }
 }
