@@ -198,6 +198,9 @@ public final class GroupEdgesTest {
         common("-P 6 2", "-P 4 2", "-P 2 2'");
         common("x+1/24,y,z", "x+1/8,y,z;x,y+1/2,z", "x+1/8,y,z");
         common("x+1/8,y,z", "x+1/3,y,z", "P");
+        common("C 2", "1/2-x,1/2-y,z", "1/2-x,1/2-y,z");
+        common("1/2-x,1/2-y,z", "C 2", "1/2-x,1/2-y,z");
+        common("F 2", "1/2-x,-y,z+1/2;x,y+1/2,z+1/2", "1/2-x,-y,z+1/2;x,y+1/2,z+1/2");
     }
 
     /** "NONE if one lacks or there is no such slot". */

@@ -9,6 +9,8 @@ public final class OperatorEdgesTest {
         noAxes();
         senses();
         sensesOfTheSecondVector();
+        axesAndSensesOfOtherBases();
+        oneBehindAnother();
         pitches();
         fixes();
         inverses();
@@ -194,6 +196,73 @@ public final class OperatorEdgesTest {
         numbers("-z,y,x", 18, 18, "-1");
     }
 
+    /** AXIS and SENSE by their words alone, of matrices that are far from the plain ones. */
+    private static void axesAndSensesOfOtherBases() {
+        int[][] bases = {{2, 1, 0, 3, 1, 0, 0, 0, 1}, {-1, 0, 0, 0, -1, 0, 0, 0, 1}, {0, 1, 0, -1, 2, 0, 2, 0, 1},
+            {0, 0, 1, 0, 1, 3, -1, 2, 5}, {0, 1, 2, 1, 0, 1, -2, 3, 3}, {-2, 1, 0, -5, 2, 0, 3, 0, 1},
+            {1, 2, 3, 0, 1, 4, 0, 0, 1}, {1, 0, 0, -4, 1, 0, 2, -3, 1}, {2, 1, 1, 1, 1, 1, 1, 1, 2},
+            {4, 3, 0, 5, 4, 0, 1, 1, 1}, {0, 2, -1, 1, 5, 0, 0, 3, -1}, {-3, 2, 0, 1, -1, 0, 4, 0, -1}};
+        String[] texts = {"x,-y,-z", "-x,y,z", "-x,-y,z", "-y,x-y,z", "-y,x,z", "x-y,x,z", "y,-x,-z", "y,y-x,-z",
+            "y-x,-x,-z", "z,x,y"};
+        for (int[] basis : bases) {
+            for (String text : texts) {
+                SymmetryHouse x = triples(text);
+                for (int k = 0; k < 9; k++) {
+                    x.basis(k, basis[k]);
+                }
+                Check.due("turn of " + text, x.turn(0, 1, false), x.group(0, 0));
+                for (int i = 0; i < x.group(1, 0); i++) {
+                    axisAndSense(x, i);
+                }
+            }
+        }
+    }
+
+    private static void axisAndSense(SymmetryHouse x, int i) {
+        int[] n = new int[19];
+        for (int k = 0; k < 19; k++) {
+            n[k] = x.operator(1, i, k);
+        }
+        int type = n[12];
+        if (type == 1 || type == -1) {
+            Check.due("no AXIS", Check.operator(x, 1, i, 15, 18), "0 0 0 0");
+            return;
+        }
+        int sign = type < 0 ? -1 : 1;
+        int[] u = {n[15], n[16], n[17]};
+        int first = u[0] != 0 ? u[0] : u[1] != 0 ? u[1] : u[2];
+        Check.due("the first that is not 0 is above 0", first > 0, true);
+        for (int d = 2; d < 100; d++) {
+            Check.due("no common divisor " + d, u[0] % d == 0 && u[1] % d == 0 && u[2] % d == 0, false);
+        }
+        for (int r = 0; r < 3; r++) {
+            int led = n[r * 3] * u[0] + n[r * 3 + 1] * u[1] + n[r * 3 + 2] * u[2];
+            Check.due("R u", led, sign * u[r]);
+        }
+        int sense = 0;
+        for (int e = 0; e < 3 && sense == 0 && type * sign > 2; e++) {
+            int[] v = {e == 0 ? 1 : 0, e == 1 ? 1 : 0, e == 2 ? 1 : 0};
+            int[] w = {sign * n[e], sign * n[3 + e], sign * n[6 + e]};
+            sense = Integer.signum(u[0] * (v[1] * w[2] - v[2] * w[1]) - v[0] * (u[1] * w[2] - u[2] * w[1])
+                + w[0] * (u[1] * v[2] - u[2] * v[1]));
+        }
+        Check.due("SENSE", n[18], sense);
+    }
+
+    /** What is told of one OPERATOR does not hang on the one that was asked ahead. */
+    private static void oneBehindAnother() {
+        SymmetryHouse x = symbol("-P 4n 2");
+        for (int i = 0; i < x.group(0, 0); i++) {
+            SymmetryHouse alone = symbol("-P 4n 2");
+            Check.due("operator " + i, Check.operator(x, 0, i, 0, 23), Check.operator(alone, 0, i, 0, 23));
+        }
+        x = symbol("P 4 2");
+        Check.due("SENSE of a 4", x.operator(0, number(x, "y,-x,z"), 18), -1);
+        Check.due("SENSE of a 2 behind it", x.operator(0, number(x, "y,x,-z"), 18), 0);
+        Check.due("SENSE of the other 4", x.operator(0, number(x, "-y,x,z"), 18), 1);
+        Check.due("SENSE of the identity", x.operator(0, number(x, "x,y,z"), 18), 0);
+    }
+
     /** "PITCH: t + R t + .. + R to the (TURNS - 1) t, t as it is told, not taken round". */
     private static void pitches() {
         numbers("x,y,z", 19, 21, "0 0 0");
@@ -216,8 +285,9 @@ public final class OperatorEdgesTest {
     /** "It FIXES a point (as it is told) just if its PITCH is 0, 0, 0": 24 is not 0. */
     private static void fixes() {
         String[] texts = {"x,y,z", "x+1/24,y,z", "-x,-y,z", "-x,-y,z+1/2", "-x+1/2,-y,z", "x+1/2,y,-z", "x,y,-z+1/2",
-            "-x+1/24,-y,-z", "-y,x,z+1/4", "-y,x,-z+1/4", "y+1/2,x+1/2,z", "y+1/2,x+1/2,-z", "-y+1/2,-x+1/2,-z"};
-        int[] counts = {1, 1, 2, 1, 2, 1, 2, 2, 1, 4, 1, 1, 2};
+            "-x+1/24,-y,-z", "-y,x,z+1/4", "-y,x,-z+1/4", "y+1/2,x+1/2,z", "y+1/2,x+1/2,-z", "-y+1/2,-x+1/2,-z",
+            "-x,y+1/2,-z", "x+1/2,-y,-z", "x,y+1/24,z", "x,y,z+1/24"};
+        int[] counts = {1, 1, 2, 1, 2, 1, 2, 2, 1, 4, 1, 1, 2, 1, 1, 1, 1};
         for (int i = 0; i < texts.length; i++) {
             Check.due("fixing ones of " + texts[i], triples(texts[i]).group(0, 11), counts[i]);
         }

@@ -235,6 +235,14 @@ public final class ReflectionEdgesTest {
         for (int i = 0; i < texts.length; i++) {
             Check.due("absent ones of " + texts[i], group(texts[i]).absent(0, 6), counts[i]);
         }
+        Check.due("R to 2", group("R 1").absent(0, 2), 84);
+        Check.due("3 1 to 2", group("P 31").absent(0, 2), 4);
+        Check.due("4 1 to 3", group("P 41").absent(0, 3), 6);
+        Check.due("4 1 along x to 3", group("P 4x1").absent(0, 3), 6);
+        Check.due("4 1 along y to 5", group("P 4y1").absent(0, 5), 8);
+        Check.due("6 1 to 4", group("P 61").absent(0, 4), 8);
+        Check.due("1/24 to 5", group("x,y,z+1/24").absent(0, 5), 1210);
+        Check.due("1/24 of each to 1", group("x+1/24,y+1/24,z+1/24").absent(0, 1), 20);
     }
 
     /** "NONE if the slot has no group". */

@@ -19,6 +19,8 @@ public final class StateEdgesTest {
         refusedMetricsAndOrbits();
         slotsThatAreNotThere();
         lackingSlots();
+        readsAreApart();
+        othersAreApart();
         lastOfItsCalls();
         Check.end();
     }
@@ -223,6 +225,59 @@ public final class StateEdgesTest {
             Check.due("part to it" + at, x.part(0, 0, 1, slot), -1);
             Check.due("turn to it" + at, x.turn(0, slot, false), -1);
         }
+    }
+
+    /** A text that is read means the same behind any other one. */
+    private static void readsAreApart() {
+        String[] texts = {"P 2x (1 2 3)", "P 2'", "P 3 2", "-F 1 1 1 1", "P 2 2", "P 4y 3'", "P 41 2 (0 0 1", "P 6x 21",
+            "P 4 6", "-F 4u 2 3", "P 1 1 3", "x,y,z", "-x+1/2,y,z-1/3", "x+y+1/2,-y$", "x,y,z;x+1/5", "x,x,z",
+            "x,y,z;".repeat(12) + "x", "x,x+y,z", "x+1/24,y,z;x,y+1/24,z", "-y,x,z;z,x,y", "", "1/2-x,-y,-z"};
+        for (String ahead : texts) {
+            for (String text : texts) {
+                SymmetryHouse alone = new SymmetryHouse();
+                SymmetryHouse behind = new SymmetryHouse();
+                readAny(behind, 1, ahead);
+                Check.due("<" + text + "> behind <" + ahead + ">", readAny(behind, 0, text), readAny(alone, 0, text));
+            }
+        }
+    }
+
+    private static String readAny(SymmetryHouse x, int slot, String text) {
+        boolean triples = text.indexOf(',') >= 0;
+        StringBuilder s = new StringBuilder();
+        s.append(triples ? Check.triples(x, slot, text) : Check.symbol(x, slot, text));
+        for (int what = 0; what < 4; what++) {
+            s.append(' ').append(x.fault(what));
+        }
+        for (int i = 0; i < x.group(slot, 0) && i < 24; i++) {
+            s.append(' ').append(Check.operator(x, slot, i, 0, 11));
+        }
+        return s.toString();
+    }
+
+    /** What a call answers does not hang on what it was asked ahead. */
+    private static void othersAreApart() {
+        SymmetryHouse x = new SymmetryHouse();
+        Check.symbol(x, 0, "-P 4 2 3");
+        Check.due("product", x.product(0, 1, 1), 47);
+        Check.due("normal", x.normal(0, 0), 1);
+        Check.symbol(x, 0, "P 3 2");
+        Check.due("product in the next group", x.product(0, 3, 1), 2);
+        Check.due("inverse in it", x.operator(0, 0, 22), 3);
+        x.turn(0, 0, false);
+        Check.due("product in the same one", x.product(0, 3, 1), 2);
+        x.part(0, 2, 3, 0);
+        Check.due("product in its part", x.product(0, 0, 0), 1);
+        Check.symbol(x, 0, "P 4");
+        Check.due("a large orbit", x.orbit(0, 1, 2, 3, 10), 4);
+        Check.due("a small one", x.orbit(0, 0, 0, 0, 1), 1);
+        Check.due("its stabiliser", x.site(0), 4);
+        Check.due("a large one again", x.orbit(0, 1, 2, 3, 10), 4);
+        Check.due("its stabiliser", x.site(0), 1);
+        Check.due("a metric", x.metric(0, 1, 2, 3, 4, 5, 6), 0);
+        Check.due("another one", x.metric(0, 2, 2, 5, 0, 0, 0), 1);
+        Check.due("its sum", x.mean(2), 20);
+        Check.due("its last sum", x.mean(5), 0);
     }
 
     /** "An object is used for at most 512 calls after it has been made". */

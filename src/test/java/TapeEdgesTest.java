@@ -209,6 +209,8 @@ public final class TapeEdgesTest {
         Check.due("INFINITE and too many", Check.triples(x, 1, "x+1/24,y,z;x,y+1/24,z;x,x+y,z"), -3);
         faultIs(x, "INFINITE", 0, -1, 3, 49);
         Check.due("no group", x.group(1, 0), -1);
+        Check.due("a translation that comes late", Check.triples(x, 0, "x,y,z;".repeat(11) + "x-y,x,z+1/8"), 24);
+        Check.due("one in the first of twelve", Check.triples(x, 0, "x,y,z+1/24" + ";-y,x,z".repeat(11)), 96);
     }
 
     /** "NONE for others, and ahead of any". */
