@@ -21,6 +21,8 @@ public final class StateEdgesTest {
         lackingSlots();
         readsAreApart();
         othersAreApart();
+        slotsUsedAgain();
+        fullSlots();
         lastOfItsCalls();
         Check.end();
     }
@@ -278,6 +280,77 @@ public final class StateEdgesTest {
         Check.due("another one", x.metric(0, 2, 2, 5, 0, 0, 0), 1);
         Check.due("its sum", x.mean(2), 20);
         Check.due("its last sum", x.mean(5), 0);
+    }
+
+    /** Of a larger group that a slot had, nothing is left behind a smaller one's end. */
+    private static void slotsUsedAgain() {
+        String[] larger = {"-F 4 2 3", "-P 6 2", "-R 3"};
+        String[][] pairs = {{"P", "P"}, {"P 2 2", "P 2"}, {"P 3 2", "P 3"}, {"I 4", "P 4"}, {"-P", "P"}, {"P -4", "P 2"}};
+        for (String ahead : larger) {
+            for (String[] pair : pairs) {
+                SymmetryHouse alone = new SymmetryHouse();
+                SymmetryHouse behind = new SymmetryHouse();
+                for (int slot = 0; slot < 4; slot++) {
+                    Check.symbol(behind, slot, ahead);
+                    behind.group(slot, 9);
+                }
+                behind.orbit(0, 1, 2, 3, 9);
+                behind.text(0, 0);
+                Check.due(pair[0] + " and " + pair[1] + " behind " + ahead, tellPair(behind, pair), tellPair(alone, pair));
+            }
+        }
+    }
+
+    private static String tellPair(SymmetryHouse x, String[] pair) {
+        StringBuilder s = new StringBuilder();
+        for (int slot = 0; slot < 2; slot++) {
+            s.append(Check.symbol(x, slot, pair[slot])).append(':');
+            for (int what = 0; what < 12; what++) {
+                s.append(x.group(slot, what)).append(' ');
+            }
+        }
+        int order = x.group(0, 0);
+        for (int i = 0; i <= order; i++) {
+            s.append(x.coset(0, 1, i)).append(' ').append(x.find(1, 0, i)).append(' ').append(x.find(0, 1, i)).append(' ');
+            for (int j = 0; j <= order; j++) {
+                s.append(x.product(0, i, j)).append(' ');
+            }
+            s.append(x.operator(0, i, 22)).append(' ').append(x.operator(0, i, 23)).append(' ');
+        }
+        s.append(x.compare(0, 1)).append(' ').append(x.cosets(0, 1)).append(' ').append(x.normal(0, 1)).append(' ');
+        s.append(x.common(0, 1, 2)).append(' ').append(x.compare(2, 1)).append(' ').append(x.group(2, 9)).append(' ');
+        s.append(x.part(0, 0, 1, 3)).append(' ').append(x.compare(3, 0)).append(' ').append(x.group(3, 10)).append(' ');
+        for (int what = 0; what < 6; what++) {
+            s.append(x.reflection(0, 1, 1, 1, what)).append(' ').append(x.reflection(0, 0, 0, 1, what)).append(' ');
+        }
+        s.append(x.orbit(0, 1, 2, 3, 9)).append(' ').append(x.site(0)).append(' ').append(x.place(order, 0)).append(' ');
+        s.append(x.metric(0, 1, 2, 3, 4, 5, 6)).append(' ').append(x.mean(0)).append(' ').append(x.absent(0, 2));
+        return s.toString();
+    }
+
+    /** A group of as many OPERATORS as there may be: the last of them, too. */
+    private static void fullSlots() {
+        SymmetryHouse x = new SymmetryHouse();
+        Check.due("192", Check.symbol(x, 0, "-F 4 2 3"), 192);
+        Check.due("F", Check.symbol(x, 1, "F"), 4);
+        Check.due("cosets", x.cosets(0, 1), 48);
+        Check.due("the last coset", x.coset(0, 1, 191), 47);
+        Check.due("no coset more", x.coset(0, 1, 192), -1);
+        Check.due("normal", x.normal(0, 1), 1);
+        Check.due("product of the last", x.product(0, 191, 191), 188);
+        Check.due("the last's inverse", x.operator(0, 191, 22), 191);
+        Check.due("the last is exchanged with", x.operator(0, 191, 23), 64);
+        Check.due("sets", x.cosets(0, 0), 1);
+        Check.due("normal in itself", x.normal(0, 0), 1);
+        Check.due("common", x.common(0, 0, 2), 192);
+        Check.due("part", x.part(0, 2, -1, 3), 8);
+        Check.due("compare", x.compare(0, 2), 3);
+        Check.due("text of the last", Check.out(x, x.text(0, 191)), "x+1/2,y+1/2,z");
+        Check.triples(x, 0, "x+1/24,y,z;x,y+1/8,z");
+        Check.due("192 translations", x.group(0, 2), 192);
+        Check.due("the last coset by one", x.coset(0, 0, 191), 0);
+        Check.due("the last place", x.orbit(0, 0, 0, 0, 1), 192);
+        Check.due("the last place's number", x.place(191, 0), 23);
     }
 
     /** "An object is used for at most 512 calls after it has been made". */
