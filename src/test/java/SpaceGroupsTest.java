@@ -1,4 +1,7 @@
-/** A witness from outside the document: the 230 types of space groups, as the International Tables have them. */
+/**
+ * A witness from outside the document: the 230 types of space groups and some of their origins, written down from
+ * memory of the International Tables.
+ */
 public final class SpaceGroupsTest {
     private static final String[] SYMBOLS = {
         "P 1", "-P 1", "P 2y", "P 2yb", "C 2y", "P -2y", "P -2yc", "C -2y", "C -2yc", "-P 2y",
